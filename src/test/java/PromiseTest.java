@@ -334,6 +334,13 @@ public final class PromiseTest {
         check.due("read()", y.read(), 7);
         check.due("read(): twice is once", y.read(), 7);
         check.due("count(0)", y.count(0), 7);
+        y.chord(0, 1, 2, 1);
+        y.speak(0);
+        y.hole(0);
+        y.couple(127);
+        check.due("read()", y.read(), 7);
+        check.due("count(2)", y.count(2), 0);
+        check.due("count(3)", y.count(3), 0);
     }
 
     private static void readFaults() {
@@ -345,6 +352,8 @@ public final class PromiseTest {
         fault("door 0 1;d", 9);
         fault("door 0 1;door 1", 15);
         fault("doors 0 1;", 0);
+        fault("doorz 0 1;", 0);
+        fault("xoor 0 1;", 0);
         fault("doo 0 1;", 0);
         fault("Door 0 1;", 0);
         fault("dOor 0 1;", 0);
@@ -377,6 +386,10 @@ public final class PromiseTest {
         OneNote x = new OneNote();
         write(x, "one0 1 2;slack1;");
         check.due("read(): blanks may be none", x.read(), 2);
+        write(x, "slack 100;");
+        check.due("read()", x.read(), -16);
+        write(x, "slack 1");
+        check.due("read(): nothing is left of a longer text", x.read(), -17);
     }
 
     private static void readRefusals() {
@@ -479,6 +492,16 @@ public final class PromiseTest {
         for (int off : new int[] {-1, 6, 33, MAX, MIN}) {
             check.bad(x, "said(" + off + ")", () -> x.said(off));
         }
+        x.image(0);
+        people(x, SINGER, 1, SINGER, 2, SINGER, 3, SINGER, 4);
+        x.chord(6, 8, 9, 1);
+        x.slack(2);
+        check.asks(x, "seven", () -> x.said(0), 4);
+        check.asks(x, "with SLACK", () -> x.said(1), 11);
+        x.from(0);
+        x.slack(2);
+        check.asks(x, "nobody and no CHORD of later ones", () -> x.said(0), 0);
+        check.asks(x, "no CHORD of later ones", () -> x.said(1), 3);
     }
 
     private static void byDoor() {
@@ -681,6 +704,10 @@ public final class PromiseTest {
             y.chord(0, 1, c, 1);
         }
         check.asks(y, "every other of eight in a row", () -> y.drop(1), 0x55);
+        y.read();
+        y.chord(0, 1, 2, 1);
+        y.chord(0, 1, 3, 1);
+        check.asks(y, "two", () -> y.drop(1), 1);
     }
 
     private static void news() {
@@ -735,6 +762,23 @@ public final class PromiseTest {
         row(x, 0, 1, 0, 5, 1);
         x.hears(4, 1);
         row(x, 0, 1, 0, 4, 1);
+        OneNote y = new OneNote();
+        for (int r = 0; r < 6; r++) {
+            if (r != 3) {
+                y.hears(r, 3);
+            }
+        }
+        check.asks(y, "over ROOM 3 where nobody is", () -> y.news(4, 5, -1), 1);
+        for (int r = 0; r < 6; r++) {
+            int between = r;
+            OneNote z = new OneNote();
+            z.hears((r + 1) % 6, r);
+            z.hears(r, (r + 2) % 6);
+            z.one(SINGER, 0, (r + 1) % 6);
+            check.asks(z, "over ROOM " + r, () -> z.news((between + 1) % 6, (between + 2) % 6, -1), 1);
+            z.goes(0, r);
+            check.asks(z, "over ROOM " + r + ", somebody", () -> z.news((between + 1) % 6, (between + 2) % 6, -1), 0);
+        }
     }
 
     private static void row(OneNote x, int from, int to, int... rooms) {
@@ -925,6 +969,8 @@ public final class PromiseTest {
         check.asks(x, "11 and 1 by 1", () -> x.song(10, 1, -1), 0);
         check.asks(x, "11, 1 and 0 by 1", () -> x.song(74, 1, -1), 2);
         sung(x, 74, 1, 1, 6, 3);
+        check.asks(x, "6, 4, 9 by 3: 6 is between", () -> x.song(21, 3, -1), 2);
+        sung(x, 21, 3, 2, 0, 4);
         check.asks(x, "all", () -> x.song(127, 6, -1), 5040);
         sung(x, 127, 6, 0, 1, 2, 3, 4, 5, 6);
         check.asks(x, "MAX", () -> x.song(127, 6, MAX), -5);
@@ -971,7 +1017,17 @@ public final class PromiseTest {
         y.mates(2, 3);
         check.asks(y, "as it is", () -> y.says(15, 1), 1);
         check.asks(y, "0 with 2: 1 and 3 have none then", () -> y.couple(15), 2);
-        check.asks(y, "they do after all", () -> y.says(15, 0), 1);
+        check.asks(y, "nothing has changed", () -> y.says(15, 1), 1);
+        OneNote z = new OneNote();
+        people(z, WED, 0, WED, 1, SINGER, 4);
+        z.mates(0, 1);
+        z.chord(0, 4, 8, 1);
+        check.asks(z, "0 with 2: 1 is at 8 no more", () -> z.couple(7), 12);
+        OneNote w = new OneNote();
+        people(w, SINGER, 4, WED, 0, WED, 1);
+        w.mates(1, 2);
+        w.chord(0, 4, 8, 1);
+        check.asks(w, "0 with 1: 2 is at 8 no more", () -> w.couple(7), 2);
     }
 
     // ---- 33 to 38: what there is
