@@ -505,20 +505,19 @@ public final class OneNote {
 
         /** Two of the people become WED and one another's, whoever was theirs has nobody then. */
         void wed(int a, int b) {
-            leaveSpouse(a);
-            leaveSpouse(b);
+            freeSpouseOf(a);
+            freeSpouseOf(b);
             kinds[a] = WED;
             kinds[b] = WED;
             spouses[a] = b;
             spouses[b] = a;
         }
 
-        private void leaveSpouse(int person) {
+        private void freeSpouseOf(int person) {
             int spouse = spouses[person];
             if (isPerson(spouse)) {
                 spouses[spouse] = NONE;
             }
-            spouses[person] = NONE;
         }
 
         int move(int person, int room) {

@@ -778,6 +778,8 @@ public final class PromiseTest {
             check.asks(z, "over ROOM " + r, () -> z.news((between + 1) % 6, (between + 2) % 6, -1), 1);
             z.goes(0, r);
             check.asks(z, "over ROOM " + r + ", somebody", () -> z.news((between + 1) % 6, (between + 2) % 6, -1), 0);
+            z.goes(0, (r + 2) % 6);
+            check.asks(z, "over ROOM " + r + ", left", () -> z.news((between + 1) % 6, (between + 2) % 6, -1), 1);
         }
     }
 
