@@ -31,6 +31,7 @@ public final class FormTest {
         String code = withoutComments(Files.readString(Path.of("src/main/java/OneNote.java")));
         words(code);
         methodLengths(code);
+        objects(code);
         check.end();
     }
 
@@ -146,5 +147,18 @@ public final class FormTest {
             }
         }
         none("methods over sixty lines", tooLong);
+    }
+
+    /** Rule 12 allows more, but a run of calls has little room: all that is made is made with the object. */
+    private static void objects(String code) {
+        check.about("rule 12");
+        List<String> made = new ArrayList<>();
+        for (String line : code.split("\n")) {
+            if (line.matches(".*\\b(new|clone|copyOf|copyOfRange|toCharArray|substring)\\b.*")
+                && !line.matches("\\s+private final .*;")) {
+                made.add(line.trim());
+            }
+        }
+        none("objects that a call makes", made);
     }
 }
